@@ -16,6 +16,7 @@ public final class LeastChanges {
 
     private static final int MAX_TANKS = 3;
     private static final int MAX_DAYS = 10;
+    private static final int LAST_DAY = MAX_DAYS - 1;
     private static final int MAX_BATCHES = 4;
     private static final int MAX_RULES = 8;
     private static final int MAX_OUTS = 12;
@@ -212,7 +213,7 @@ public final class LeastChanges {
     /** The days of one tank from the first to the last as bits, without those that no tank has. */
     private static int daysFromTo(int first, int last) {
         int low = Math.max(first, 0);
-        int high = Math.min(last, MAX_DAYS - 1);
+        int high = Math.min(last, LAST_DAY);
         return low > high ? 0 : (1 << (high + 1)) - (1 << low);
     }
 
@@ -342,6 +343,7 @@ public final class LeastChanges {
         private final int[] free = new int[MAX_BATCHES];
         private final int[] lags = new int[MAX_BATCHES * MAX_BATCHES];
         private final int[] apart = new int[MAX_BATCHES];
+        /** A row for each batch that is to be put, with the places of all: row 0 before any is put. */
         private final int[] open = new int[MAX_BATCHES * MAX_BATCHES];
         private final int[] tried = new int[MAX_BATCHES];
         private int count;
@@ -391,6 +393,9 @@ public final class LeastChanges {
                     takeOne(rules.kinds[rule], rules.firsts[rule], rules.seconds[rule], rules.numbers[rule]);
                 }
             }
+            for (int round = 0; round < MAX_DAYS; round++) {
+                closeByLags();
+            }
         }
 
         private void takeOne(int kind, int a, int b, int number) {
@@ -401,10 +406,41 @@ public final class LeastChanges {
                 apart[a] |= 1 << b;
                 apart[b] |= 1 << a;
             } else if (kind == ENDS_BY) {
-                open[a] &= inEveryTank(0, number - lengths[a]);
+                open[a] &= inEveryTank(daysFromTo(0, number - lengths[a]));
             } else if (kind == STARTS_FROM) {
-                open[a] &= inEveryTank(number, MAX_DAYS - 1);
+                open[a] &= inEveryTank(daysFromTo(number, LAST_DAY));
             }
+        }
+
+        /**
+         * Closes starts that leave a batch no start behind another. Without it two batches that can't
+         * follow each other would be tried again in every place of the batches before them.
+         */
+        private void closeByLags() {
+            for (int a = 0; a < count; a++) {
+                for (int b = 0; b < count; b++) {
+                    int lag = lags[a * MAX_BATCHES + b];
+                    if (lag != NO_LAG) {
+                        int behind = lengths[b] + lag;
+                        open[a] &= inEveryTank(daysFromTo(firstStart(open[b]) + behind, LAST_DAY));
+                        open[b] &= inEveryTank(daysFromTo(0, lastStart(open[a]) - behind));
+                    }
+                }
+            }
+        }
+
+        /** Behind all days if no place is open. */
+        private static int firstStart(int places) {
+            return Integer.numberOfTrailingZeros(startsIn(places));
+        }
+
+        /** Before all days if no place is open. */
+        private static int lastStart(int places) {
+            return 31 - Integer.numberOfLeadingZeros(startsIn(places));
+        }
+
+        private static int startsIn(int places) {
+            return (places | places >> MAX_DAYS | places >> (2 * MAX_DAYS)) & ALL_DAYS;
         }
 
         boolean findsAny() {
@@ -500,11 +536,11 @@ public final class LeastChanges {
             int last = start - lags[batch * MAX_BATCHES + other] - lengths[other];
             boolean mayShare = (apart[batch] >> other & 1) == 0;
             int taken = mayShare ? daysFromTo(start - lengths[other] + 1, end - 1) : ALL_DAYS;
-            return inEveryTank(first, last) & ~(taken << (tankOfPlace(place) * MAX_DAYS));
+            return inEveryTank(daysFromTo(first, last)) & ~(taken << (tankOfPlace(place) * MAX_DAYS));
         }
 
-        private static int inEveryTank(int firstStart, int lastStart) {
-            return daysFromTo(firstStart, lastStart) * IN_EVERY_TANK;
+        private static int inEveryTank(int starts) {
+            return starts * IN_EVERY_TANK;
         }
     }
 }

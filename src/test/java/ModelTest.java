@@ -25,7 +25,7 @@ public final class ModelTest {
 
     public static void main(String[] args) {
         Check check = new Check("ModelTest");
-        for (long seed = 1; seed <= 1500 && check.wrong() < 20; seed++) {
+        for (long seed = 1; seed <= 2500 && check.wrong() < 20; seed++) {
             check.part("seed " + seed);
             new ModelTest(seed, check).play();
         }
@@ -43,10 +43,24 @@ public final class ModelTest {
                 batch();
             }
         }
+        if (random.nextInt(3) == 0) {
+            disturbAll();
+        }
         for (int i = 0; i < calls && check.wrong() < 20; i++) {
             call(random.nextInt(20));
             compareState();
         }
+    }
+
+    /** Makes all batches late and tanks out at once, so that plans with many changes come up. */
+    private void disturbAll() {
+        for (int i = 0; i < model.plan.size(); i++) {
+            int more = 1 + random.nextInt(2);
+            check.due("late(" + i + ", " + more + ")", real.late(i, more), model.late(i, more));
+        }
+        out();
+        run();
+        compareState();
     }
 
     private void call(int which) {
