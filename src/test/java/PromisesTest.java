@@ -679,9 +679,10 @@ public final class PromisesTest {
 
     private static void undoKeepsSixteen() {
         check.part("promise 12, sixteen");
-        for (int runs = 14; runs <= 27; runs++) {
+        for (int runs = 11; runs <= 27; runs++) {
             LeastChanges x = new LeastChanges(3, 10);
             for (int tank = 0; tank < 3; tank++) {
+                run(x, 0, 0);
                 x.batch(tank, 0, 1);
             }
             for (int i = 0; i < runs; i++) {
@@ -689,13 +690,13 @@ public final class PromisesTest {
                 run(x, 1, 1);
             }
             placesAfter(x, runs);
-            int kept = Math.min(runs, 16);
+            int kept = Math.min(runs + 3, 16);
             for (int i = 1; i <= kept; i++) {
                 check.due("undo()", x.undo(), true);
-                placesAfter(x, runs - i);
+                placesAfter(x, Math.max(runs - i, 0));
             }
             check.due("undo()", x.undo(), false);
-            placesAfter(x, runs - kept);
+            placesAfter(x, Math.max(runs - kept, 0));
         }
     }
 
